@@ -154,12 +154,7 @@ public final class StatementTables {
         }
         copyTable(CURRENT, NEXT);
         putRow(k, a, b, c);
-        int refusal = testNext();
-        if (refusal != 0) {
-            return refusal;
-        }
-        copyTable(NEXT, CURRENT);
-        return number + 1;
+        return takeNext(number + 1);
     }
 
     public int delete(int w) {
@@ -189,12 +184,7 @@ public final class StatementTables {
         if (!buildUpdated(col)) {
             return BAD_KEY;
         }
-        int refusal = testNext();
-        if (refusal != 0) {
-            return refusal;
-        }
-        copyTable(NEXT, CURRENT);
-        return met;
+        return takeNext(met);
     }
 
     public int copy(int w, int e) {
@@ -212,12 +202,7 @@ public final class StatementTables {
         if (!buildCopied()) {
             return BAD_KEY;
         }
-        int refusal = testNext();
-        if (refusal != 0) {
-            return refusal;
-        }
-        copyTable(NEXT, CURRENT);
-        return met;
+        return takeNext(met);
     }
 
     public int unique(int on) {
@@ -263,12 +248,8 @@ public final class StatementTables {
             return NONE;
         }
         copyTable(s, NEXT);
-        int refusal = testNext();
-        if (refusal != 0) {
-            return refusal;
-        }
-        copyTable(NEXT, CURRENT);
-        return countRows(CURRENT);
+        int number = countRows(NEXT);
+        return takeNext(number);
     }
 
     public int differences(int s) {
@@ -446,8 +427,9 @@ public final class StatementTables {
     // a fault in one that is left out is dropped by the part above it.
     private long workOut(int term, int slot) {
         int first = term * MOST_PARTS;
+        int end = first + partCounts[term];
         int top = -1;
-        for (int i = first; i < first + partCounts[term]; i++) {
+        for (int i = first; i < end; i++) {
             int kind = partKinds[i];
             if (kind <= PARAMETER) {
                 top++;
@@ -672,15 +654,16 @@ public final class StatementTables {
         return true;
     }
 
-    // Answers the code with which the conditions refuse NEXT, or 0.
-    private int testNext() {
+    // Makes NEXT the table and answers what is handed in, unless a condition refuses.
+    private int takeNext(int answer) {
         if (uniqueOn && !isUnique(NEXT)) {
             return NOT_UNIQUE;
         }
         if (checkOn && !allMeet(NEXT, CHECK)) {
             return UNCHECKED;
         }
-        return 0;
+        copyTable(NEXT, CURRENT);
+        return answer;
     }
 
     private boolean isUnique(int table) {

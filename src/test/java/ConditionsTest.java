@@ -73,7 +73,14 @@ public final class ConditionsTest {
         Terms.express(t, 1, "1");
         DUE.due("14: e as it was", t.insert(1, 5, 0, 0), StatementTables.UNCHECKED);
         DUE.due("14: e as it was", t.insert(1, 4, 0, 0), 1);
+        Terms.express(t, 7, "1");
         t.leaf(0, 7);
+        DUE.due("14: other expressions do not matter", t.insert(2, 5, 0, 0),
+                StatementTables.UNCHECKED);
+        for (int e = 0; e < 8; e++) {
+            DUE.due("14: expressions stay", t.sum(0, e), 1);
+        }
+        DUE.due("14: the stack stays", t.leaf(0, 7), 2);
         DUE.due("14: the stack does not matter", t.insert(2, 5, 0, 0), StatementTables.UNCHECKED);
     }
 

@@ -17,7 +17,7 @@ public final class QuestionsTest {
         DUE.end();
     }
 
-    /** Expression 1: a is above 0; 2: b; 3: none; 4: a fault for key 0; 5: for none that has a > 0. */
+    /** Expression 1: 0 < a; 2: b; 3: none; 4: a fault for key 0; 5: a fault unless 0 < a. */
     private static StatementTables table() {
         StatementTables t = new StatementTables();
         t.insert(5, 3, 10, 0);
@@ -132,6 +132,10 @@ public final class QuestionsTest {
         u.insert(2, MIN + 1, -8, 0);
         DUE.due("23: below 0", u.greatest(0, 1), MIN + 1);
         DUE.due("23: below 0", u.greatest(0, 2), -7);
+        u.insert(50, 3, 6, 0);
+        u.insert(-50, 4, 5, 0);
+        DUE.due("23: lowest key", u.greatest(0, 1), 4);
+        DUE.due("23: highest key", u.greatest(0, 2), 6);
     }
 
     private static void different() {

@@ -16,6 +16,7 @@ public final class StatementsTest {
         copy();
         copyLimits();
         copyOrder();
+        lowestAndHighestKey();
         badExpressions();
         uncheckedForUnchangedRows();
         DUE.end();
@@ -279,6 +280,20 @@ public final class StatementsTest {
         unchanged("12: refused", t);
         t.uncheck();
         DUE.due("12: good", t.copy(0, 2), 2);
+    }
+
+    private static void lowestAndHighestKey() {
+        StatementTables t = table(-50, 50);
+        Terms.express(t, 1, "key 0 < 1 -1 choose");
+        Terms.express(t, 2, "key 0 < key 1 + key 1 - choose");
+        DUE.due("11: both", t.update(0, 1, 1), 2);
+        DUE.due("11: lowest key", t.value(-50, 1), 1);
+        DUE.due("11: highest key", t.value(50, 1), -1);
+        DUE.due("12: both", t.copy(0, 2), 2);
+        DUE.due("12: lowest key", t.value(-49, 3), 50);
+        DUE.due("12: highest key", t.value(49, 3), 150);
+        DUE.due("10: all four", t.delete(0), 4);
+        DUE.due("10: none is left", t.rows(), 0);
     }
 
     private static void badExpressions() {
