@@ -1,7 +1,3 @@
-import java.lang.reflect.Method;
-import java.util.ArrayList;
-import java.util.Arrays;
-import java.util.List;
 import java.util.TreeMap;
 
 /** Long mixed runs, the same every time, on the program and on the model: all answers agree. */
@@ -9,7 +5,6 @@ public final class ModelTest {
     private static final int RUNS = 6000;
     // With the look at all cells at the end a run stays within 512 calls.
     private static final int CALLS = 185;
-    private static final int SHOWN = 12;
     private static final int[] EXTREMES =
         {Integer.MIN_VALUE, Integer.MIN_VALUE + 1, Integer.MAX_VALUE, 65536, 46341};
     private static final String[] NAMES = {"leaf", "one", "two", "choose", "scrap", "express",
@@ -23,10 +18,7 @@ public final class ModelTest {
     private static long seed;
     private static final TreeMap<String, Integer> SEEN = new TreeMap<>();
 
-    private final StatementTables program = new StatementTables();
-    private final Model model = new Model();
-    private final List<String> made = new ArrayList<>();
-    private boolean wrong;
+    private final Pair pair = new Pair(SEEN);
 
     public static void main(String[] args) {
         int bad = 0;
@@ -68,19 +60,15 @@ public final class ModelTest {
         if (profile == 1) {
             fill();
         }
-        while (made.size() < CALLS && !wrong) {
-            if (below(5) == 0 && made.size() < CALLS - 30) {
+        while (pair.calls() < CALLS && !pair.isWrong()) {
+            if (below(5) == 0 && pair.calls() < CALLS - 30) {
                 makeTerm();
             } else {
                 call(pick());
             }
         }
-        for (int k = -50; k <= 50 && !wrong; k++) {
-            for (int col = 1; col <= 3 && !wrong; col++) {
-                make("value", k, col);
-            }
-        }
-        return !wrong;
+        pair.lookAtCells();
+        return !pair.isWrong();
     }
 
     private static int below(int bound) {
@@ -227,39 +215,6 @@ public final class ModelTest {
     }
 
     private void make(String name, int... x) {
-        if (wrong) {
-            return;
-        }
-        int got = ask(program, name, x);
-        int want = ask(model, name, x);
-        String text = name + Arrays.toString(x);
-        made.add(text + " answered " + got);
-        note(name, want);
-        if (got != want) {
-            wrong = true;
-            System.out.println(text + " answered " + got + ", due is " + want + ", after");
-            made.subList(Math.max(0, made.size() - SHOWN), made.size()).forEach(
-                    line -> System.out.println("  " + line));
-        }
-    }
-
-    private static void note(String name, int answer) {
-        String[] codes = {"BAD_ARG", "FULL", "TOO_FEW", "NONE", "FAULT", "BAD_KEY", "NOT_UNIQUE",
-            "UNCHECKED"};
-        int code = -1000000001 - answer;
-        SEEN.merge(name + " " + (code >= 0 && code < 8 ? codes[code] : "good"), 1, Integer::sum);
-    }
-
-    private static int ask(Object asked, String name, int[] x) {
-        Class<?>[] types = new Class<?>[x.length];
-        Arrays.fill(types, int.class);
-        Object[] values = Arrays.stream(x).boxed().toArray();
-        try {
-            Method method = asked.getClass().getDeclaredMethod(name, types);
-            Object answer = method.invoke(asked, values);
-            return answer == null ? 0 : (Integer) answer;
-        } catch (ReflectiveOperationException e) {
-            throw new IllegalStateException(name, e);
-        }
+        pair.make(name, x);
     }
 }

@@ -11,6 +11,7 @@ public final class NewObjectTest {
 
     public static void main(String[] args) throws Exception {
         nothingIsThere();
+        objectsShareNothing();
         constants();
         face();
         DUE.end();
@@ -38,6 +39,23 @@ public final class NewObjectTest {
             Terms.express(t, 0, "p" + p);
             DUE.due("1: parameter is 0", t.greatest(1, 0), 0);
         }
+    }
+
+    /** A new object is new whatever was done with others, and stays so whatever is done. */
+    private static void objectsShareNothing() {
+        StatementTables earlier = new StatementTables();
+        Sample.plain().accept(earlier);
+        StatementTables t = new StatementTables();
+        DUE.due("1: no row", t.rows(), 0);
+        Sample.plain().accept(new StatementTables());
+        DUE.due("1: no row", t.rows(), 0);
+        DUE.due("1: the stack is empty", t.leaf(0, 1), 1);
+        DUE.due("1: check is off", t.uncheck(), 0);
+        for (int s = 0; s < 4; s++) {
+            DUE.due("1: nothing is saved", t.load(s), StatementTables.NONE);
+        }
+        DUE.due("1: rows of the other", earlier.rows(), 6);
+        DUE.due("1: check of the other", earlier.uncheck(), 1);
     }
 
     private static void constants() {
