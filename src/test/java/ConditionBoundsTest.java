@@ -74,6 +74,9 @@ public final class ConditionBoundsTest {
         }
     }
 
+    /**
+     * "no two rows have the same c": rows that are not in the table, or not any more, do not count.
+     */
     private static void uniqueOfFewRows() {
         BOUNDS.changes("13: no row", t -> { }, t -> t.unique(1), 0, "unique");
         BOUNDS.changes("13: one row", t -> t.insert(0, 0, 0, 0), t -> t.unique(1), 0, "unique");

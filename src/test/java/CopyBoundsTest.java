@@ -245,6 +245,7 @@ public final class CopyBoundsTest {
         BOUNDS.leaves("12: no further row", withUnique(sample("0", "30")), t -> t.copy(W, E), 0);
     }
 
+    /** NOT_UNIQUE before UNCHECKED, whichever row would fail the check. */
     private static void uniqueBeforeUnchecked() {
         for (int least : new int[] {12, 17, -99}) {
             BOUNDS.refused("12: NOT_UNIQUE before UNCHECKED",

@@ -192,6 +192,7 @@ public final class InsertDeleteBoundsTest {
         BOUNDS.refused("10: a fault, no row meets w", noneMeets, t -> t.delete(Sample.W), FAULT);
     }
 
+    /** "FAULT if w is one for some row": without such a row there is none. */
     private static void deleteFaultOnlyForRows() {
         Consumer<StatementTables> noRow = Sample.with(t -> t.delete(Sample.ALL));
         BOUNDS.leaves("10: no row, no fault", noRow, t -> t.delete(Sample.FAULT_AT_0), 0);

@@ -120,6 +120,7 @@ public final class TermBoundsTest {
         }
     }
 
+    /** "a fault if Y is 0", whatever X is and however Y comes to be 0. */
     private static void divisionBy0() {
         for (int x : INTS) {
             DUE.due(x + " / 0", value("a 0 /", x, 0), FAULT);
@@ -222,6 +223,7 @@ public final class TermBoundsTest {
         expect("1 2 3 choose 9 -", -7);
     }
 
+    /** "column (0 key, 1 a, 2 b, 3 c of the row); parameter". */
     private static void columnsAndParameters() {
         StatementTables t = new StatementTables();
         int[][] rows = {{-50, MIN, MAX, -1}, {0, 1, 2, 3}, {50, MAX, MIN, FAULT}};
