@@ -388,7 +388,7 @@ public final class StatementTables {
             case CONSTANT:
                 return k >= -GREATEST_CONSTANT && k <= GREATEST_CONSTANT;
             case COLUMN:
-                return k >= 0 && k < COLUMNS;
+                return isColumn(k);
             case PARAMETER:
                 return k >= 0 && k < PARAMETERS;
             default:
@@ -562,7 +562,7 @@ public final class StatementTables {
         cells[slot * COLUMNS + 3] = c;
     }
 
-    // Answers how many rows meet w, or FAULT.
+    // All rows are looked at before a call acts on one: a fault of w for any refuses the whole.
     private int selectRows(int w) {
         int met = 0;
         for (int slot = 0; slot < KEYS; slot++) {
@@ -581,7 +581,7 @@ public final class StatementTables {
         return met;
     }
 
-    // Answers how many rows meet w, or FAULT if w or, for a row that meets w, e is one.
+    // For rows that do not meet w, e is not worked out: there it may be a fault.
     private int selectResults(int w, int e) {
         int met = selectRows(w);
         if (met == FAULT) {
@@ -608,7 +608,8 @@ public final class StatementTables {
         return true;
     }
 
-    // Answers whether the keys are good.
+    // Rows are put into an empty NEXT one by one, since they may take each other's keys. False for
+    // a bad key: NEXT is then unfinished, and is not taken.
     private boolean buildUpdated(int col) {
         clearNext();
         for (int slot = 0; slot < KEYS; slot++) {
@@ -627,7 +628,8 @@ public final class StatementTables {
         return true;
     }
 
-    // Answers whether the keys are good.
+    // The further rows join the old ones, so that their keys are tested against old and new ones.
+    // False for a bad key, as above.
     private boolean buildCopied() {
         copyTable(CURRENT, NEXT);
         for (int slot = 0; slot < KEYS; slot++) {
@@ -654,7 +656,7 @@ public final class StatementTables {
         return true;
     }
 
-    // Makes NEXT the table and answers what is handed in, unless a condition refuses.
+    // The conditions are the last tests of insert, update, copy and load, so they stand here once.
     private int takeNext(int answer) {
         if (uniqueOn && !isUnique(NEXT)) {
             return NOT_UNIQUE;
