@@ -34,7 +34,10 @@ import javax.tools.JavaFileObject;
 import javax.tools.SimpleJavaFileObject;
 import javax.tools.ToolProvider;
 
-/** Reads off a program's text where it leaves LANGUAGE.md; the rules' numbers are its own. */
+/**
+ * Reads off a program's text where it leaves LANGUAGE.md; the rules' numbers are its own. Types of
+ * expressions and ends of loops are not worked out, so what needs these is left to the reader.
+ */
 final class Language extends TreeScanner<Void, Void> {
     private static final int MOST_PARAMETERS = 7;
     private static final int MOST_LINES = 65;
